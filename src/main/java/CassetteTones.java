@@ -450,6 +450,7 @@ public final class CassetteTones {
         private final int[] firsts = new int[MOST_BLOCKS + 1];
         private final int[] volumes = new int[MOST_CELLS];
         private final int[] bad = new int[MOST_CELLS];
+        // Bits as they were written; of no meaning in leaders and behind tellings, which tell none.
         private final int[] written = new int[MOST_CELLS];
 
         private void copyFrom(Tape other) {
@@ -502,7 +503,6 @@ public final class CassetteTones {
             for (int cell = first; cell < end; cell++) {
                 volumes[cell] = settings[LOUD];
                 bad[cell] = 0;
-                written[cell] = 0;
             }
             for (int telling = 0; telling < TELLINGS; telling++) {
                 writeTelling(first + telling * length + LEADER_CELLS, many, bytes);

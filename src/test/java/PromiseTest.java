@@ -255,6 +255,9 @@ public final class PromiseTest {
         Due.is("7: check of the sum is silent", y.of(0, 5), 3);
         y.set(LEAST, 10);
         Due.is("7: a lesser LEAST", y.of(0, 5), 0);
+        y.set(LEAST, 0);
+        y.spoil(20);
+        Due.is("7: a wrong check is wrong by any LEAST", y.of(0, 5), 3);
 
         CassetteTones sums = new CassetteTones();
         sums.write(0, NONE, 7, -1);
@@ -388,6 +391,9 @@ public final class PromiseTest {
         Due.is("10: bad", x.cell(0, 1) + x.cell(4, 1) + x.cell(91, 1), 3);
         Due.is("10: a bad cell tells the other bit", x.cell(4, 2) * 10 + x.cell(5, 2), 1);
         Due.is("10: not in leaders", x.cell(0, 2) + x.cell(25, 2), 0);
+        Tapes.spoilAll(x, 46, 49, 68, 71);
+        Due.is("10: not in later leaders", x.cell(46, 2) + x.cell(49, 2) + x.cell(68, 2) + x.cell(71, 2), 0);
+        Due.is("10: but behind them", x.cell(50, 2) + x.cell(72, 2), 2);
         Due.is("10: not behind", x.cell(44, 2) + x.cell(45, 2) + x.cell(91, 2), 0);
         x.fade(5, 5, 0);
         Due.is("10: a silent cell tells its bit", x.cell(5, 2), 1);
@@ -417,6 +423,9 @@ public final class PromiseTest {
         }
         CassetteTones full = Tapes.withBlocks(16);
         Due.is("11: all are loaded", full.count(2), 65535);
+        full.fade(0, 0, 29);
+        full.fade(735, 735, 29);
+        Due.is("11: the first and the last cell", full.count(4), 2);
     }
 
     private static void promise12Reached() {
@@ -487,6 +496,12 @@ public final class PromiseTest {
         Due.is("14: the second loudest cell of the leader", leader.mostLeast(0), 12);
         leader.fade(3, 3, 5);
         Due.is("14: the second loudest again", leader.mostLeast(0), 7);
+
+        CassetteTones silent = new CassetteTones();
+        silent.write(0, NONE, 7, -1);
+        silent.fade(0, 153, 0);
+        Due.is("14: at 0 nothing is silent", silent.mostLeast(0), 0);
+        Due.is("14: but it is not loaded now", silent.of(0, 7), NONE);
 
         // The byte of the telling 0 is whole but wrong, and silent above 40: then the other one is taken.
         CassetteTones hidden = new CassetteTones();
@@ -656,6 +671,10 @@ public final class PromiseTest {
         volumes.set(LOUD, 42);
         volumes.carryOut();
         Due.is("20: as loud as LOUD is", volumes.cell(0, 0), 42);
+        Due.is("20: a byte that is 0", volumes.load(0), 0);
+        Tapes.putAll(volumes, "f0-0=0;x0;+0^0:0");
+        Due.is("20: noughts", volumes.carryOut(), 3);
+        Due.is("20: faded by noughts", volumes.cell(0, 0) * 10 + volumes.cell(0, 1), 1);
     }
 
     private static void promise20CarryOutWrong() {
@@ -685,20 +704,43 @@ public final class PromiseTest {
 
     private static void promise21Undo() {
         CassetteTones x = new CassetteTones();
-        String[] pictures = new String[7];
+        String[] states = new String[7];
         for (int change = 0; change < 7; change++) {
-            pictures[change] = Tapes.picture(x);
+            states[change] = Tapes.state(x);
             x.write(change, NONE, 1 + change % 3, change * 1000L);
         }
         Due.is("21: six are kept", x.count(10), 6);
         for (int change = 6; change >= 1; change--) {
             Due.is("21: undo " + change, x.undo(), change - 1);
             Due.is("21: blocks", x.count(0), change);
-            Due.is("21: settings and tape as before", Tapes.picture(x).substring(30).compareTo(
-                pictures[change].substring(30)), 0);
+            Due.holds("21: settings and tape as before", Tapes.state(x).equals(states[change]));
         }
         Due.is("21: none is left", x.undo(), NOT_POSSIBLE);
         Due.is("21: the oldest was dropped", x.count(0), 1);
+
+        CassetteTones many = new CassetteTones();
+        for (int change = 0; change < 40; change++) {
+            many.set(LEAST, change);
+            many.set(LEAST, change + 50);
+            Due.is("21: round and round", many.undo() * 100 + many.count(7), Math.min(change + 1, 5) * 100 + change);
+        }
+        for (int change = 39; change >= 35; change--) {
+            Due.is("21: back to " + change, many.undo() * 100 + many.count(7), (change - 35) * 100 + change - 1);
+        }
+        Due.is("21: no more", many.undo(), NOT_POSSIBLE);
+
+        CassetteTones full = new CassetteTones();
+        for (int block = 0; block < 16; block++) {
+            full.write(99 - block, block == 0 ? NONE : block - 1, 7, -1L - block);
+        }
+        full.fade(2463, 2463, 7);
+        full.spoil(2463);
+        String before = Tapes.state(full);
+        full.wipeLast();
+        full.write(1, NONE, 1, 0);
+        full.undo();
+        full.undo();
+        Due.holds("21: the last block with all that it has", Tapes.state(full).equals(before));
 
         CassetteTones all = Tapes.withBlocks(2);
         all.spoil(4);

@@ -40,13 +40,19 @@ final class Tapes {
         return tape;
     }
 
-    /** Every answer about what there is, in one text: two tapes with the same text are in the same state. */
+    /** What undo and the slots bring back, and the pad and how many changes can be undone. */
     static String picture(CassetteTones tape) {
+        return new StringBuilder(state(tape)).append('\n').append(tape.count(9)).append(' ').append(tape.fault())
+            .append(' ').append(tape.count(10)).toString();
+    }
+
+    /** Every answer about the settings, the blocks and the cells: tapes with the same text are in the same state. */
+    static String state(CassetteTones tape) {
         StringBuilder all = new StringBuilder();
-        for (int what = 0; what <= 10; what++) {
+        for (int what = 0; what <= 8; what++) {
             all.append(tape.count(what)).append(' ');
         }
-        all.append(tape.reached()).append(' ').append(tape.fault()).append('\n');
+        all.append(tape.reached()).append('\n');
         for (int block = 0; block < tape.count(0); block++) {
             for (int what = 0; what <= 9; what++) {
                 all.append(tape.of(block, what)).append(' ');
