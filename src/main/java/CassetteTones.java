@@ -34,14 +34,13 @@ public final class CassetteTones {
     private static final int MOST_DIGITS = 4;
 
     private static final int MOST_STATES = 6;
-    private static final int SLOTS = 2;
 
     private final Tape tape;
     private final BlockReader reader;
     private final Pad pad;
     private final History history;
-    private final Tape[] slots;
-    private final boolean[] saved;
+    private final Slot firstSlot;
+    private final Slot secondSlot;
     private final int[] below;
 
     public CassetteTones() {
@@ -49,11 +48,8 @@ public final class CassetteTones {
         reader = new BlockReader();
         pad = new Pad();
         history = new History();
-        slots = new Tape[SLOTS];
-        for (int slot = 0; slot < SLOTS; slot++) {
-            slots[slot] = new Tape();
-        }
-        saved = new boolean[SLOTS];
+        firstSlot = new Slot();
+        secondSlot = new Slot();
         below = new int[MOST_BLOCKS];
     }
 
@@ -63,9 +59,9 @@ public final class CassetteTones {
         if (setting < 0 || setting >= SETTINGS || value < 0 || value > mostOf(setting)) {
             return BAD_VALUE;
         }
-        history.record(tape);
-        int previous = tape.settings[setting];
-        tape.settings[setting] = value;
+        history.keep(tape);
+        int previous = tape.setting(setting);
+        setValue(tape.settings, setting, value);
         return previous;
     }
 
@@ -74,7 +70,7 @@ public final class CassetteTones {
         if (error != FINE) {
             return error;
         }
-        history.record(tape);
+        history.keep(tape);
         return tape.appendBlock(name, under, many, bytes);
     }
 
@@ -82,7 +78,7 @@ public final class CassetteTones {
         if (tape.blocks <= 0) {
             return NOT_POSSIBLE;
         }
-        history.record(tape);
+        history.keep(tape);
         tape.blocks--;
         return tape.blocks;
     }
@@ -92,7 +88,7 @@ public final class CassetteTones {
         if (error != FINE) {
             return error;
         }
-        history.record(tape);
+        history.keep(tape);
         return tape.fadeCells(from, to, volume);
     }
 
@@ -100,7 +96,7 @@ public final class CassetteTones {
         if (!tape.hasCell(cell)) {
             return NO_SUCH;
         }
-        history.record(tape);
+        history.keep(tape);
         return tape.spoilCell(cell);
     }
 
@@ -112,15 +108,15 @@ public final class CassetteTones {
         }
         switch (what) {
             case 0:
-                return tape.names[block];
+                return valueAt(tape.names, block);
             case 1:
-                return tape.unders[block];
+                return valueAt(tape.unders, block);
             case 2:
-                return tape.manys[block];
+                return valueAt(tape.manys, block);
             case 3:
-                return tape.firsts[block];
+                return tape.firstOf(block);
             case 4:
-                return tape.firsts[block + 1] - tape.firsts[block];
+                return tape.firstOf(block + 1) - tape.firstOf(block);
             case 5:
                 return stateOfTelling(block, 0);
             case 6:
@@ -130,7 +126,7 @@ public final class CassetteTones {
             case 8:
                 return tape.depthOf(block);
             case 9:
-                return tape.counterOf(tape.firsts[block]);
+                return tape.counterOf(tape.firstOf(block));
             default:
                 return BAD_VALUE;
         }
@@ -144,23 +140,23 @@ public final class CassetteTones {
         if (way == NONE) {
             return NOT_POSSIBLE;
         }
-        return reader.bytesBy(way, tape.settings[LEAST]);
+        return reader.bytesBy(way, tape.setting(LEAST));
     }
 
     public int read(int block, int telling, int place) {
-        if (!tape.hasBlock(block) || place < 0 || place > tape.manys[block]) {
+        if (!tape.hasBlock(block) || place < 0 || place > valueAt(tape.manys, block)) {
             return NO_SUCH;
         }
         if (telling < 0 || telling >= TELLINGS) {
             return BAD_VALUE;
         }
         reader.readBlock(tape, block);
-        Telling told = reader.tellings[telling];
-        int least = tape.settings[LEAST];
+        Telling told = reader.telling(telling);
+        int least = tape.setting(LEAST);
         if (told.isLost(least) || !told.isByteWhole(place, least)) {
             return NONE;
         }
-        return told.values[place];
+        return valueAt(told.values, place);
     }
 
     public int cell(int cell, int what) {
@@ -169,9 +165,9 @@ public final class CassetteTones {
         }
         switch (what) {
             case 0:
-                return tape.volumes[cell];
+                return valueAt(tape.volumes, cell);
             case 1:
-                return tape.bad[cell];
+                return valueAt(tape.bad, cell);
             case 2:
                 return tape.bitAt(cell);
             case 3:
@@ -200,11 +196,11 @@ public final class CassetteTones {
             case 5:
                 return tape.badCells();
             case 6:
-                return tape.settings[LOUD];
+                return tape.setting(LOUD);
             case 7:
-                return tape.settings[LEAST];
+                return tape.setting(LEAST);
             case 8:
-                return tape.settings[SLIP];
+                return tape.setting(SLIP);
             case 9:
                 return pad.length;
             case 10:
@@ -218,7 +214,7 @@ public final class CassetteTones {
         int set = 0;
         // A block is always under an earlier one, so one walk forward settles them all.
         for (int block = 0; block < tape.blocks; block++) {
-            int under = tape.unders[block];
+            int under = valueAt(tape.unders, block);
             if ((under == NONE || holds(set, under)) && wayOfLoading(block) != NONE) {
                 set |= 1 << block;
             }
@@ -283,14 +279,11 @@ public final class CassetteTones {
         countBelow(reachable);
         int best = NONE;
         for (int block = 0; block < tape.blocks; block++) {
-            if (holds(reachable, block) && (best < 0 || below[block] > below[best])) {
+            if (holds(reachable, block) && (best == NONE || valueAt(below, block) > valueAt(below, best))) {
                 best = block;
             }
         }
-        if (best < 0) {
-            return NONE;
-        }
-        return what == 0 ? best : below[best];
+        return what == 0 ? best : valueAt(below, best);
     }
 
     // ---- texts
@@ -321,7 +314,7 @@ public final class CassetteTones {
         if (pad.findFault() != NONE) {
             return BAD_TEXT;
         }
-        history.record(tape);
+        history.keep(tape);
         int done = 0;
         pad.at = 0;
         for (int orders = 0; orders < MOST_CHARACTERS; orders++) {
@@ -348,24 +341,44 @@ public final class CassetteTones {
     }
 
     public int save(int slot) {
-        if (slot < 0 || slot >= SLOTS) {
+        Slot chosen = slotOf(slot);
+        if (chosen == null) {
             return BAD_VALUE;
         }
-        slots[slot].copyFrom(tape);
-        saved[slot] = true;
+        chosen.saved.copyFrom(tape);
+        chosen.filled = true;
         return tape.blocks;
     }
 
     public int restore(int slot) {
-        if (slot < 0 || slot >= SLOTS) {
+        Slot chosen = slotOf(slot);
+        if (chosen == null) {
             return BAD_VALUE;
         }
-        if (!saved[slot]) {
+        if (!chosen.filled) {
             return NOT_POSSIBLE;
         }
-        history.record(tape);
-        tape.copyFrom(slots[slot]);
+        history.keep(tape);
+        tape.copyFrom(chosen.saved);
         return tape.blocks;
+    }
+
+    /** What stands at a place of a row; 0 beside it. */
+    private static int valueAt(int[] row, int place) {
+        return place >= 0 && place < row.length ? row[place] : 0;
+    }
+
+    private static void setValue(int[] row, int place, int value) {
+        if (place >= 0 && place < row.length) {
+            row[place] = value;
+        }
+    }
+
+    private Slot slotOf(int slot) {
+        if (slot == 0) {
+            return firstSlot;
+        }
+        return slot == 1 ? secondSlot : null;
     }
 
     private static int mostOf(int setting) {
@@ -378,12 +391,12 @@ public final class CassetteTones {
 
     private int stateOfTelling(int block, int telling) {
         reader.readBlock(tape, block);
-        return reader.tellings[telling].stateBy(tape.settings[LEAST]);
+        return reader.telling(telling).stateBy(tape.setting(LEAST));
     }
 
     private int wayOfLoading(int block) {
         reader.readBlock(tape, block);
-        return reader.wayBy(tape.settings[LEAST]);
+        return reader.wayBy(tape.setting(LEAST));
     }
 
     private int loadedBlocks(boolean byBothAlone) {
@@ -399,13 +412,13 @@ public final class CassetteTones {
 
     private void countBelow(int reachable) {
         for (int block = 0; block < MOST_BLOCKS; block++) {
-            below[block] = 0;
+            setValue(below, block, 0);
         }
         // Backward, so that a block's own number is complete when it is handed on.
         for (int block = tape.blocks - 1; block >= 0; block--) {
-            int under = tape.unders[block];
-            if (holds(reachable, block) && under >= 0) {
-                below[under] += below[block] + 1;
+            int under = valueAt(tape.unders, block);
+            if (holds(reachable, block) && under != NONE) {
+                setValue(below, under, valueAt(below, under) + valueAt(below, block) + 1);
             }
         }
     }
@@ -460,7 +473,7 @@ public final class CassetteTones {
             System.arraycopy(other.unders, 0, unders, 0, MOST_BLOCKS);
             System.arraycopy(other.manys, 0, manys, 0, MOST_BLOCKS);
             System.arraycopy(other.firsts, 0, firsts, 0, MOST_BLOCKS + 1);
-            int used = cells();
+            int used = Math.max(0, Math.min(cells(), MOST_CELLS));
             System.arraycopy(other.volumes, 0, volumes, 0, used);
             System.arraycopy(other.bad, 0, bad, 0, used);
             System.arraycopy(other.written, 0, written, 0, used);
@@ -470,8 +483,16 @@ public final class CassetteTones {
             return block >= 0 && block < blocks;
         }
 
+        private int setting(int setting) {
+            return valueAt(settings, setting);
+        }
+
+        private int firstOf(int block) {
+            return valueAt(firsts, block);
+        }
+
         private int cells() {
-            return firsts[blocks];
+            return valueAt(firsts, blocks);
         }
 
         private boolean hasCell(int cell) {
@@ -479,7 +500,7 @@ public final class CassetteTones {
         }
 
         private int tellingCells(int block) {
-            return LEADER_CELLS + (manys[block] + 1) * BYTE_CELLS;
+            return LEADER_CELLS + (valueAt(manys, block) + 1) * BYTE_CELLS;
         }
 
         private int errorOfBlock(int name, int under, int many) {
@@ -494,20 +515,20 @@ public final class CassetteTones {
 
         private int appendBlock(int name, int under, int many, long bytes) {
             int block = blocks;
-            names[block] = name;
-            unders[block] = under;
-            manys[block] = many;
-            int first = firsts[block];
+            setValue(names, block, name);
+            setValue(unders, block, under);
+            setValue(manys, block, many);
+            int first = firstOf(block);
             int length = tellingCells(block);
             int end = first + TELLINGS * length + CELLS_BEHIND;
             for (int cell = first; cell < end; cell++) {
-                volumes[cell] = settings[LOUD];
-                bad[cell] = 0;
+                setValue(volumes, cell, setting(LOUD));
+                setValue(bad, cell, 0);
             }
             for (int telling = 0; telling < TELLINGS; telling++) {
                 writeTelling(first + telling * length + LEADER_CELLS, many, bytes);
             }
-            firsts[block + 1] = end;
+            setValue(firsts, block + 1, end);
             blocks++;
             return block;
         }
@@ -524,9 +545,9 @@ public final class CassetteTones {
 
         private void writeByte(int from, int value) {
             for (int bit = 0; bit < BYTE_BITS; bit++) {
-                written[from + bit] = value >>> bit & 1;
+                setValue(written, from + bit, value >>> bit & 1);
             }
-            written[from + BYTE_BITS] = Integer.bitCount(value) & 1;
+            setValue(written, from + BYTE_BITS, Integer.bitCount(value) & 1);
         }
 
         private int errorOfFading(int from, int to, int volume) {
@@ -539,8 +560,8 @@ public final class CassetteTones {
         private int fadeCells(int from, int to, int volume) {
             int faded = 0;
             for (int cell = from; cell <= to; cell++) {
-                if (volumes[cell] > volume) {
-                    volumes[cell] = volume;
+                if (valueAt(volumes, cell) > volume) {
+                    setValue(volumes, cell, volume);
                     faded++;
                 }
             }
@@ -548,15 +569,16 @@ public final class CassetteTones {
         }
 
         private int spoilCell(int cell) {
-            bad[cell] = 1 - bad[cell];
-            return bad[cell];
+            int turned = 1 - valueAt(bad, cell);
+            setValue(bad, cell, turned);
+            return turned;
         }
 
         private int silentCells() {
             int silent = 0;
             int end = cells();
             for (int cell = 0; cell < end; cell++) {
-                if (volumes[cell] < settings[LEAST]) {
+                if (valueAt(volumes, cell) < setting(LEAST)) {
                     silent++;
                 }
             }
@@ -567,14 +589,14 @@ public final class CassetteTones {
             int spoiled = 0;
             int end = cells();
             for (int cell = 0; cell < end; cell++) {
-                spoiled += bad[cell];
+                spoiled += valueAt(bad, cell);
             }
             return spoiled;
         }
 
         private int blockAt(int cell) {
             int block = 0;
-            while (block < blocks - 1 && cell >= firsts[block + 1]) {
+            while (block < blocks - 1 && cell >= firstOf(block + 1)) {
                 block++;
             }
             return block;
@@ -582,7 +604,7 @@ public final class CassetteTones {
 
         private int partAt(int cell) {
             int block = blockAt(cell);
-            int inBlock = cell - firsts[block];
+            int inBlock = cell - firstOf(block);
             int length = tellingCells(block);
             if (inBlock < length) {
                 return 0;
@@ -593,19 +615,23 @@ public final class CassetteTones {
         private int bitAt(int cell) {
             int block = blockAt(cell);
             int part = partAt(cell);
-            int inPart = cell - firsts[block] - part * tellingCells(block);
+            int inPart = cell - firstOf(block) - part * tellingCells(block);
             if (part == TELLINGS || inPart < LEADER_CELLS) {
                 return 0;
             }
-            return written[cell] ^ bad[cell];
+            return toldAt(cell);
+        }
+
+        private int toldAt(int cell) {
+            return valueAt(written, cell) ^ valueAt(bad, cell);
         }
 
         private int counterOf(int cell) {
-            return (cell - cell * settings[SLIP] / 100) % COUNTER_ROUND;
+            return (cell - cell * setting(SLIP) / 100) % COUNTER_ROUND;
         }
 
         private int distanceOf(int block, int counter) {
-            int apart = Math.abs(counterOf(firsts[block]) - counter);
+            int apart = Math.abs(counterOf(firstOf(block)) - counter);
             return Math.min(apart, COUNTER_ROUND - apart);
         }
 
@@ -623,10 +649,10 @@ public final class CassetteTones {
 
         private int depthOf(int block) {
             int depth = 0;
-            int under = unders[block];
-            while (under >= 0 && depth < MOST_BLOCKS) {
+            int under = valueAt(unders, block);
+            while (under != NONE && depth < MOST_BLOCKS) {
                 depth++;
-                under = unders[under];
+                under = valueAt(unders, under);
             }
             return depth;
         }
@@ -652,7 +678,7 @@ public final class CassetteTones {
             int loudest = -1;
             int second = -1;
             for (int cell = from; cell < from + LEADER_CELLS; cell++) {
-                int volume = tape.volumes[cell];
+                int volume = valueAt(tape.volumes, cell);
                 second = Math.max(second, Math.min(volume, loudest));
                 loudest = Math.max(loudest, volume);
             }
@@ -664,14 +690,14 @@ public final class CassetteTones {
             int value = 0;
             int ones = 0;
             for (int bit = 0; bit < BYTE_CELLS; bit++) {
-                int told = tape.written[from + bit] ^ tape.bad[from + bit];
-                quietest = Math.min(quietest, tape.volumes[from + bit]);
+                int told = tape.toldAt(from + bit);
+                quietest = Math.min(quietest, valueAt(tape.volumes, from + bit));
                 value |= told << bit;
                 ones += told;
             }
-            values[place] = value & BYTE_MASK;
+            setValue(values, place, value & BYTE_MASK);
             boolean checkIsRight = (ones & 1) == 0;
-            wholeUpTo[place] = checkIsRight ? quietest : -1;
+            setValue(wholeUpTo, place, checkIsRight ? quietest : -1);
         }
 
         private boolean isLost(int least) {
@@ -679,11 +705,11 @@ public final class CassetteTones {
         }
 
         private boolean isByteWhole(int place, int least) {
-            return wholeUpTo[place] >= least;
+            return valueAt(wholeUpTo, place) >= least;
         }
 
         private boolean tellsSum(int sum, int least) {
-            return isByteWhole(many, least) && values[many] == (sum & BYTE_MASK);
+            return isByteWhole(many, least) && valueAt(values, many) == (sum & BYTE_MASK);
         }
 
         private int stateBy(int least) {
@@ -695,7 +721,7 @@ public final class CassetteTones {
                 if (!isByteWhole(place, least)) {
                     return BROKEN;
                 }
-                sum += values[place];
+                sum += valueAt(values, place);
             }
             return tellsSum(sum, least) ? WHOLE : UNSURE;
         }
@@ -705,12 +731,16 @@ public final class CassetteTones {
     private static final class BlockReader {
         private final Telling first = new Telling();
         private final Telling second = new Telling();
-        private final Telling[] tellings = {first, second};
+
+        private Telling telling(int telling) {
+            return telling == 0 ? first : second;
+        }
 
         private void readBlock(Tape tape, int block) {
-            int from = tape.firsts[block];
-            first.readCells(tape, from, tape.manys[block]);
-            second.readCells(tape, from + tape.tellingCells(block), tape.manys[block]);
+            int from = tape.firstOf(block);
+            int many = valueAt(tape.manys, block);
+            first.readCells(tape, from, many);
+            second.readCells(tape, from + tape.tellingCells(block), many);
         }
 
         private int wayBy(int least) {
@@ -740,9 +770,9 @@ public final class CassetteTones {
 
         private int byteTogether(int place, int least) {
             if (first.isByteWhole(place, least)) {
-                return first.values[place];
+                return valueAt(first.values, place);
             }
-            return second.isByteWhole(place, least) ? second.values[place] : NONE;
+            return second.isByteWhole(place, least) ? valueAt(second.values, place) : NONE;
         }
 
         private long bytesBy(int way, int least) {
@@ -755,9 +785,9 @@ public final class CassetteTones {
 
         private int byteBy(int way, int place, int least) {
             if (way == BY_SECOND) {
-                return second.values[place];
+                return valueAt(second.values, place);
             }
-            return way == BY_FIRST ? first.values[place] : byteTogether(place, least);
+            return way == BY_FIRST ? valueAt(first.values, place) : byteTogether(place, least);
         }
     }
 
@@ -792,7 +822,7 @@ public final class CassetteTones {
         }
 
         private void append(long given, int found) {
-            if (found < 0 || length + found > MOST_CHARACTERS) {
+            if (length < 0 || found < 0 || length + found > MOST_CHARACTERS) {
                 return;
             }
             for (int place = 0; place < found; place++) {
@@ -917,7 +947,7 @@ public final class CassetteTones {
 
         /** The character to be read next, 0 at the end: no character of a pad is 0. */
         private char nextCharacter() {
-            return at >= 0 && at < length ? characters[at] : (char) 0;
+            return at >= 0 && at < length && at < MOST_CHARACTERS ? characters[at] : (char) 0;
         }
     }
 
@@ -933,8 +963,12 @@ public final class CassetteTones {
             }
         }
 
-        private void record(Tape tape) {
-            states[(oldest + size) % MOST_STATES].copyFrom(tape);
+        private void keep(Tape tape) {
+            Tape state = stateAt(oldest + size);
+            if (state == null) {
+                return;
+            }
+            state.copyFrom(tape);
             if (size < MOST_STATES) {
                 size++;
             } else {
@@ -943,11 +977,23 @@ public final class CassetteTones {
         }
 
         private void takeBack(Tape tape) {
-            if (size <= 0) {
+            Tape state = stateAt(oldest + size - 1);
+            if (size <= 0 || state == null) {
                 return;
             }
+            tape.copyFrom(state);
             size--;
-            tape.copyFrom(states[(oldest + size) % MOST_STATES]);
         }
+
+        private Tape stateAt(int turn) {
+            int place = Math.floorMod(turn, MOST_STATES);
+            return place >= 0 && place < states.length ? states[place] : null;
+        }
+    }
+
+    /** What save() put away, if anything was. */
+    private static final class Slot {
+        private final Tape saved = new Tape();
+        private boolean filled;
     }
 }

@@ -4,6 +4,8 @@ import java.util.Random;
 public final class RandomRunsTest {
     private static final int RUNS = 400;
     private static final int CALLS = 512;
+    // A text is put on the pad by many calls at once.
+    private static final int CALLS_OF_A_TEXT = 40;
     private static final int[] ODD = {Integer.MIN_VALUE, -1000, -7, -6, -5, -4, -3, -2, -1, 0, 1, 2, 3, 4, 7, 8, 9, 10,
         11, 15, 16, 17, 20, 21, 31, 32, 79, 80, 99, 100, 255, 256, 999, 1000, 1001, 2463, 2464, Integer.MAX_VALUE};
 
@@ -12,6 +14,7 @@ public final class RandomRunsTest {
     private final PlainCassette plain = new PlainCassette();
     private final StringBuilder log = new StringBuilder();
     private int lastCell;
+    private int calls;
     private boolean same = true;
 
     private RandomRunsTest(long seed) {
@@ -26,7 +29,7 @@ public final class RandomRunsTest {
     }
 
     private void run(int number) {
-        for (int call = 0; call < CALLS && same; call++) {
+        while (calls < CALLS && same) {
             call();
         }
         if (!same) {
@@ -38,6 +41,7 @@ public final class RandomRunsTest {
         log.append(call).append(" -> ").append(got).append('\n');
         Due.is(call, got, want);
         same &= got == want;
+        calls++;
     }
 
     private int upTo(int bound) {
@@ -57,12 +61,12 @@ public final class RandomRunsTest {
     }
 
     private int block() {
-        return about(x.count(0));
+        return about(plain.count(0));
     }
 
     /** Often near the one before, so that several cells of a byte are touched. */
     private int cell() {
-        int cell = about(x.count(1));
+        int cell = about(plain.count(1));
         if (upTo(3) > 0) {
             cell = lastCell + upTo(12) - 6;
         }
@@ -76,7 +80,7 @@ public final class RandomRunsTest {
             change(kind);
         } else if (kind < 90) {
             ask(kind - 50);
-        } else {
+        } else if (calls + CALLS_OF_A_TEXT <= CALLS) {
             text();
         }
     }
@@ -108,7 +112,7 @@ public final class RandomRunsTest {
 
     private void fade() {
         int from = cell();
-        int to = upTo(4) == 0 ? about(x.count(1)) : from + upTo(4);
+        int to = upTo(4) == 0 ? about(plain.count(1)) : from + upTo(4);
         int volume = upTo(4) == 0 ? about(100) : 15 + upTo(40);
         compare("fade(" + from + ", " + to + ", " + volume + ")", x.fade(from, to, volume), plain.fade(from, to, volume));
     }
@@ -171,7 +175,7 @@ public final class RandomRunsTest {
         if (upTo(4) == 0) {
             compare("wipe()", x.wipe(), plain.wipe());
         }
-        StringBuilder text = new StringBuilder(x.count(9) > 0 && upTo(4) > 0 ? ";" : "");
+        StringBuilder text = new StringBuilder(plain.count(9) > 0 && upTo(4) > 0 ? ";" : "");
         for (int orders = upTo(4); orders >= 0; orders--) {
             text.append(order()).append(orders > 0 ? ";" : "");
         }
@@ -211,7 +215,7 @@ public final class RandomRunsTest {
             default:
                 StringBuilder order = new StringBuilder("+").append(number(upTo(103)));
                 if (upTo(2) == 0) {
-                    order.append('^').append(number(upTo(x.count(0) + 1)));
+                    order.append('^').append(number(upTo(plain.count(0) + 1)));
                 }
                 order.append(':').append(number(upTo(258)));
                 for (int more = upTo(9) * upTo(2); more > 0; more--) {

@@ -33,37 +33,24 @@ final class Tapes {
     }
 
     static CassetteTones withBlocks(int many) {
+        return withBlocksOf(many, 1);
+    }
+
+    /** So many blocks under none, each of so many bytes; their names are their numbers, and so are their bytes. */
+    static CassetteTones withBlocksOf(int blocks, int many) {
         CassetteTones tape = new CassetteTones();
-        for (int block = 0; block < many; block++) {
-            tape.write(block, NONE, 1, block);
+        for (int block = 0; block < blocks; block++) {
+            tape.write(block, NONE, many, block);
         }
         return tape;
     }
 
-    /** What undo and the slots bring back, and the pad and how many changes can be undone. */
-    static String picture(CassetteTones tape) {
-        return new StringBuilder(state(tape)).append('\n').append(tape.count(9)).append(' ').append(tape.fault())
-            .append(' ').append(tape.count(10)).toString();
-    }
-
-    /** Every answer about the settings, the blocks and the cells: tapes with the same text are in the same state. */
-    static String state(CassetteTones tape) {
-        StringBuilder all = new StringBuilder();
-        for (int what = 0; what <= 8; what++) {
-            all.append(tape.count(what)).append(' ');
+    /** So many blocks of one byte, each under the one before it. */
+    static CassetteTones chain(int blocks) {
+        CassetteTones tape = new CassetteTones();
+        for (int block = 0; block < blocks; block++) {
+            tape.write(block, block == 0 ? NONE : block - 1, 1, block);
         }
-        all.append(tape.reached()).append('\n');
-        for (int block = 0; block < tape.count(0); block++) {
-            for (int what = 0; what <= 9; what++) {
-                all.append(tape.of(block, what)).append(' ');
-            }
-            all.append(tape.load(block)).append('\n');
-        }
-        for (int cell = 0; cell < tape.count(1); cell++) {
-            for (int what = 0; what <= 5; what++) {
-                all.append(tape.cell(cell, what)).append(' ');
-            }
-        }
-        return all.toString();
+        return tape;
     }
 }
