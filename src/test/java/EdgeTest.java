@@ -36,6 +36,7 @@ public final class EdgeTest {
         statesAheadOfEachOther();
         loadedByOneTelling();
         loadedByBoth();
+        loadedByBothWhateverTheByte();
         loadedByBothNotFromLost();
         countersRoundDown();
         countersGoRound();
@@ -253,6 +254,9 @@ public final class EdgeTest {
                 CassetteTones x = oneBlock(1, 9);
                 x.spoil(one);
                 Due.is("reader: one turned, " + one, x.of(0, 5 + telling), inByte ? BROKEN : UNSURE);
+                x.set(LEAST, 0);
+                Due.is("reader: nothing is silent by 0, " + one, x.of(0, 5 + telling), inByte ? BROKEN : UNSURE);
+                Due.is("9: one turned, " + one, x.read(0, telling, inByte ? 0 : 1), NONE);
                 for (int other = from; other < from + 9; other++) {
                     if (other != one) {
                         x.spoil(other);
@@ -340,6 +344,23 @@ public final class EdgeTest {
         loads("silent cells", silent, 2, 0x0201);
         silent.set(LEAST, 29);
         loads("silent no more", silent, 0, 0x0201);
+    }
+
+    // A byte or a sum that is whole in none must not pass for any number.
+    private static void loadedByBothWhateverTheByte() {
+        for (int value = 0; value <= 255; value++) {
+            loads("in none, " + value, spoilt(1, value, 4, 26), NONE, NOT_POSSIBLE);
+            loads("in none, by its check, " + value, spoilt(1, value, 12, 34), NONE, NOT_POSSIBLE);
+            loads("no sum, " + value, spoilt(1, value, 13, 26, 35), NONE, NOT_POSSIBLE);
+            loads("byte of 0, sum of 1, " + value, spoilt(1, value, 13, 26), 2, value);
+            loads("byte of 1, sum of 0, " + value, spoilt(1, value, 4, 35), 2, value);
+            CassetteTones silent = oneBlock(1, value);
+            silent.fade(4, 4, 29);
+            silent.fade(34, 34, 29);
+            loads("silent in both, " + value, silent, NONE, NOT_POSSIBLE);
+            CassetteTones last = spoilt(2, value << 8 | 7, 13, 44);
+            loads("the last in none, " + value, last, NONE, NOT_POSSIBLE);
+        }
     }
 
     private static void loadedByBothNotFromLost() {
@@ -602,6 +623,13 @@ public final class EdgeTest {
         Due.is("10: whatever its volume", x.cell(4, 2) * 10 + x.cell(5, 2), 1);
         CassetteTones full = Tapes.withBlocksOf(16, 7);
         Due.is("10: cell 2463", full.cell(2463, 3), 15);
+        for (int cell : new int[] {2310, 2313, 2386, 2389, 2462, 2463}) {
+            full.spoil(cell);
+            Due.is("10: no bit at " + cell, full.cell(cell, 2), 0);
+        }
+        for (int cell : new int[] {2314, 2390}) {
+            Due.is("10: the bit at " + cell, full.cell(cell, 2), 1);
+        }
         Due.is("10: cell 2464", full.cell(2464, 3), NO_SUCH);
     }
 
