@@ -43,24 +43,28 @@ public final class FaceTest {
     private static void methods() {
         Class<?> made = CassetteTones.class;
         TreeSet<String> open = new TreeSet<>();
-        TreeSet<String> names = new TreeSet<>();
         for (Method method : made.getDeclaredMethods()) {
             if (!Modifier.isPrivate(method.getModifiers())) {
                 open.add(face(method));
-                names.add(method.getName());
             }
         }
         Due.holds("the methods are those of the document: " + open, open.equals(new TreeSet<>(Arrays.asList(METHODS))));
-        for (Method method : made.getDeclaredMethods()) {
-            Due.holds("no private method is called " + method.getName(),
-                !Modifier.isPrivate(method.getModifiers()) || !names.contains(method.getName()));
-        }
+        privateNames(made);
         Constructor<?>[] constructors = made.getDeclaredConstructors();
         Due.is("constructors", constructors.length, 1);
         Due.holds("the constructor is public and takes nothing",
             Modifier.isPublic(constructors[0].getModifiers()) && constructors[0].getParameterCount() == 0);
         Due.holds("the class is public and final",
             Modifier.isPublic(made.getModifiers()) && Modifier.isFinal(made.getModifiers()));
+    }
+
+    private static void privateNames(Class<?> made) {
+        String calls = String.join(" ", METHODS);
+        for (Method method : made.getDeclaredMethods()) {
+            Due.holds("no private method is called " + made + "." + method.getName(),
+                !Modifier.isPrivate(method.getModifiers()) || !calls.contains(" " + method.getName() + "("));
+            Due.holds("no lambda in " + made, !method.getName().startsWith("lambda$"));
+        }
     }
 
     private static void constants() {
@@ -86,6 +90,7 @@ public final class FaceTest {
             long fields = Arrays.stream(one.getDeclaredFields())
                 .filter(field -> !Modifier.isStatic(field.getModifiers())).count();
             Due.holds(one + " has at most twenty fields", fields <= 20);
+            privateNames(one);
         }
     }
 
@@ -93,15 +98,15 @@ public final class FaceTest {
         String all = Files.readString(Path.of("src/main/java/CassetteTones.java"));
         String code = all.replaceAll("(?s)/\\*.*?\\*/", "").replaceAll("//[^\n]*", "");
         for (String word : new String[] {"throw", "throws", "try", "catch", "finally", "synchronized", "assert",
-            "import", "package", "hashCode", "toString", "equals", "double", "float", "goto", "native", "volatile"}) {
+            "package", "native", "volatile", "transient", "hashCode"}) {
             Due.holds("the source has no " + word, !code.matches("(?s).*\\b" + word + "\\b.*"));
         }
-        Due.holds("no lambda and no method reference", !code.contains("->") && !code.contains("::"));
+        Due.holds("no method reference", !code.contains("::"));
         Due.holds("no Exact function", !code.matches("(?s).*\\w+Exact\\b.*"));
+        Due.holds("no static initialiser block", !code.matches("(?s).*\\bstatic\\s*\\{.*"));
         for (int at = 0; at < all.length(); at++) {
-            char sign = all.charAt(at);
-            if (sign != '\n' && (sign < 32 || sign > 126)) {
-                Due.holds("the sign " + (int) sign + " at " + at, false);
+            if (all.charAt(at) > 127) {
+                Due.holds("the sign " + (int) all.charAt(at) + " at " + at, false);
             }
         }
     }
