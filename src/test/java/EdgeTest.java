@@ -1,3 +1,4 @@
+import java.util.List;
 import java.util.function.Consumer;
 import java.util.function.ToLongFunction;
 
@@ -50,6 +51,7 @@ public final class EdgeTest {
         fadeEnds();
         fadeVolumes();
         spoilEnds();
+        nothingElseChanges();
     }
 
     private static void whatThereIs() {
@@ -535,6 +537,35 @@ public final class EdgeTest {
         x.write(0, NONE, 1, 0);
         Due.is("6: the new cell is good", x.cell(91, 1), 0);
         Due.is("6: no tape", new CassetteTones().spoil(0), NO_SUCH);
+    }
+
+    private static void nothingElseChanges() {
+        List<Consumer<CassetteTones>> changes = List.of(x -> x.write(9, 1, 2, 9), CassetteTones::wipeLast,
+            x -> x.fade(46, 91, 1), x -> x.spoil(50), CassetteTones::carryOut, CassetteTones::undo, x -> x.save(1));
+        for (int change = 0; change < changes.size(); change++) {
+            String name = ": left by the change " + change;
+            CassetteTones x = new CassetteTones();
+            x.set(LOUD, 51);
+            x.set(LEAST, 22);
+            x.set(SLIP, 7);
+            x.write(1, NONE, 1, 5);
+            x.write(2, 0, 1, 6);
+            x.spoil(3);
+            x.fade(1, 2, 30);
+            x.save(0);
+            Tapes.putAll(x, "x60");
+            x.set(LOUD, 50);
+            changes.get(change).accept(x);
+            Due.is("2: LOUD" + name, x.count(6), change == 5 ? 51 : 50);
+            Due.is("2: LEAST, SLIP" + name, x.count(7) * 100 + x.count(8), 2207);
+            Due.is("3: the first block" + name, x.of(0, 0) * 100 + x.load(0), 105);
+            Due.is("5: volumes" + name, x.cell(0, 0) * 100 + x.cell(1, 0), 5130);
+            Due.is("6: bad cells" + name, x.cell(2, 1) * 10 + x.cell(3, 1), 1);
+            Due.is("17: the pad" + name, x.count(9), change == 4 ? 0 : 3);
+            Due.is("22: the slot" + name, x.restore(0), 2);
+            Due.is("22: what is in it" + name, x.count(6) * 1000 + x.load(1) * 100 + x.count(5) * 10 + x.cell(60, 0) / 51,
+                51611);
+        }
     }
 
     // ---- what there is
